@@ -81,7 +81,10 @@ public final class OnlyNamed {
         house.settle(telling);
         memory.begin(telling);
         for (int slot = 0; slot < SLOTS; slot++) {
-            slots[slot].filled = false;
+            Memory kept = slotAt(slot);
+            if (kept != null) {
+                kept.filled = false;
+            }
         }
         return 10 * house.things + house.people;
     }
@@ -324,22 +327,24 @@ public final class OnlyNamed {
     // ---- slots
 
     public int keep(int slot) {
-        if (slot < 0 || slot >= SLOTS) {
+        Memory kept = slotAt(slot);
+        if (kept == null) {
             return UNKNOWN;
         }
-        slots[slot].copy(memory);
-        slots[slot].filled = true;
+        kept.copy(memory);
+        kept.filled = true;
         return memory.day;
     }
 
     public int again(int slot) {
-        if (slot < 0 || slot >= SLOTS) {
+        Memory kept = slotAt(slot);
+        if (kept == null) {
             return UNKNOWN;
         }
-        if (!slots[slot].filled) {
+        if (!kept.filled) {
             return STATE;
         }
-        memory.copy(slots[slot]);
+        memory.copy(kept);
         return memory.day;
     }
 
@@ -365,6 +370,11 @@ public final class OnlyNamed {
 
     private static boolean isOldHouse(int n) {
         return n >= 1 && n <= MOST_THINGS;
+    }
+
+    /** The slot of this number; null if there is none. */
+    private Memory slotAt(int slot) {
+        return slot >= 0 && slot < SLOTS ? slots[slot] : null;
     }
 
     private int soundsOfAll() {
@@ -412,8 +422,12 @@ public final class OnlyNamed {
         int live = memory.liveOnes();
         int clear = live;
         for (int thing = 0; thing < MOST_THINGS; thing++) {
-            if (has(live, thing) && nearTo(memory.names[thing], live & ~(1 << thing)) != 0) {
-                clear &= ~(1 << thing);
+            if (has(live, thing)) {
+                int behind = live & -(2 << thing);
+                int nearOnes = nearTo(memory.names[thing], behind);
+                if (nearOnes != 0) {
+                    clear &= ~(nearOnes | 1 << thing);
+                }
             }
         }
         return clear;
@@ -801,10 +815,15 @@ public final class OnlyNamed {
         }
 
         void avoid(int name) {
-            if (others >= 0 && others < MOST_THINGS) {
-                rulers[others].lay(name);
+            Ruler ruler = rulerAt(others);
+            if (ruler != null) {
+                ruler.lay(name);
                 others++;
             }
+        }
+
+        private Ruler rulerAt(int i) {
+            return i >= 0 && i < MOST_THINGS ? rulers[i] : null;
         }
 
         int shortest(int r) {
@@ -843,8 +862,9 @@ public final class OnlyNamed {
 
         /** Whether, whatever sounds it has, a name of this length is too near to one of the others. */
         private boolean isHopeless(int length, int r) {
-            for (int i = 0; i < others && i < MOST_THINGS; i++) {
-                if (rulers[i].atMost(0, length) <= r) {
+            for (int i = 0; i < others; i++) {
+                Ruler ruler = rulerAt(i);
+                if (ruler != null && ruler.atMost(0, length) <= r) {
                     return true;
                 }
             }
@@ -852,10 +872,13 @@ public final class OnlyNamed {
         }
 
         private boolean isTooNear(int at, int sound, int length, int r) {
-            for (int i = 0; i < others && i < MOST_THINGS; i++) {
-                rulers[i].step(at, sound);
-                if (rulers[i].atMost(at + 1, length - at - 1) <= r) {
-                    return true;
+            for (int i = 0; i < others; i++) {
+                Ruler ruler = rulerAt(i);
+                if (ruler != null) {
+                    ruler.step(at, sound);
+                    if (ruler.atMost(at + 1, length - at - 1) <= r) {
+                        return true;
+                    }
                 }
             }
             return false;

@@ -32,6 +32,7 @@ public final class CarriedTest {
         due.is("weighs just as much as it can bear", x.lifts(0), 3);
         due.is("lifts(1)", x.lifts(1), 4);
         due.is("lifts(2)", x.lifts(2), OnlyNamed.UNKNOWN);
+        due.is("lifts(3)", x.lifts(3), OnlyNamed.UNKNOWN);
         for (int odd : NOBODY) {
             due.is("lifts(" + odd + ")", x.lifts(odd), OnlyNamed.UNKNOWN);
         }
@@ -105,6 +106,10 @@ public final class CarriedTest {
         due.is("first way of 8: 0", x.carries(0, 8), 0);
         due.is("first way of 8: 1", x.carries(1, 8), 0);
         due.is("first way of 8: 2", x.carries(2, 8), 8);
+        // The least load by bits, ab and ac, is more than 0 can bear.
+        x = Due.houseOf("H0NabNacNdefP3P4K00K01K02K10K11K12");
+        due.is("the least that is borne: 0", x.carries(0, 7), 4);
+        due.is("the least that is borne: 1", x.carries(1, 7), 3);
         // The least bits, not the fewest things: 0 must have c (4) or a and b (3).
         x = Due.houseOf("H0NaNbNcdP2P2K00K01K02K10K11K12");
         due.is("bits, not things: 0", x.carries(0, 7), 3);
@@ -139,6 +144,11 @@ public final class CarriedTest {
     }
 
     private static void timesOfMany() {
+        OnlyNamed y = Due.houseOf("H0NaNbNcNdNeNfNaaP1P1P1P1P1P1K00K01K02K03K04K05K10K11K12K13K14K15K20K21K30K31K42");
+        due.is("five by five of them", y.times(31), 1);
+        due.is("four at one time", y.times(15), 1);
+        due.is("one by three of them", y.times(7), 1);
+        due.is("all six", y.times(63), 2);
         OnlyNamed x = Due.houseOf("H0NaNbNcNdNeNfNaaNabP1K00K01K02K03K04K05");
         due.is("one by one", x.times(63), 6);
         due.is("the heavy ones", x.times(64), OnlyNamed.NONE);
@@ -225,5 +235,8 @@ public final class CarriedTest {
         }
         x.days(10);
         due.is("mayHave of what is not live", x.mayHave(0), 0);
+        x = Due.houseOf("H0NaNbP1P1P1P1P1P1K00K50K01");
+        due.is("the first and the last one", x.mayHave(0), 33);
+        due.is("the first one", x.mayHave(1), 1);
     }
 }

@@ -141,6 +141,10 @@ public final class SongsTest {
         due.is("breaks by no line", x.breaks(1), OnlyNamed.NONE);
         x.line(0, 2);
         due.is("breaks(1)", x.breaks(1), 1);
+        x.silence();
+        x.line(0, 2);
+        due.is("breaks by the first line", x.breaks(1), 0);
+        due.is("not where that thing is", x.breaks(2), OnlyNamed.NONE);
     }
 
     // Promise 29
