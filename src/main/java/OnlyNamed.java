@@ -759,7 +759,7 @@ public final class OnlyNamed {
             for (int taken = 0; taken < sounds; taken++) {
                 step(taken, Name.soundAt(one, taken));
             }
-            return rows[sounds][length];
+            return sounds <= MOST_SOUNDS && length <= MOST_SOUNDS ? rows[sounds][length] : 0;
         }
 
         void lay(int other) {
