@@ -16,6 +16,10 @@ final class Due {
         }
     }
 
+    int calls() {
+        return calls;
+    }
+
     void end() {
         System.out.println(test + ": " + calls + " answers looked at, " + wrong + " not as due");
         if (wrong != 0 || calls == 0) {

@@ -2,7 +2,10 @@ import java.util.Random;
 
 /** Long runs of calls, by fixed seeds, each answered by OnlyNamed and by the plain model alike. */
 public final class ModelTest {
+    /** An object is used for so many calls. */
     private static final int CALLS = 512;
+    /** No step makes more calls than this: a text takes 98 at most. */
+    private static final int CALLS_OF_A_STEP = 120;
     private static final Due due = new Due("ModelTest");
 
     private final Random random;
@@ -19,15 +22,19 @@ public final class ModelTest {
         int runs = args.length > 0 ? Integer.parseInt(args[0]) : 150;
         int from = args.length > 1 ? Integer.parseInt(args[1]) : 0;
         for (int seed = from; seed < from + runs; seed++) {
-            ModelTest test = new ModelTest(seed);
-            for (int call = 0; call < CALLS; call++) {
-                test.oneCall(call);
-            }
+            new ModelTest(seed).run();
         }
         for (int seed = from; seed < from + 20 * runs; seed++) {
             new ModelTest(seed).oneFault();
         }
         due.end();
+    }
+
+    private void run() {
+        int before = due.calls();
+        while (due.calls() - before <= CALLS - CALLS_OF_A_STEP) {
+            oneStep(due.calls() == before);
+        }
     }
 
     private int below(int n) {
@@ -43,15 +50,15 @@ public final class ModelTest {
     }
 
     private int thing() {
-        return upTo(Math.max(0, x.count(1) - (below(10) == 0 ? 0 : 1)));
+        return upTo(Math.max(0, m.count(1) - (below(10) == 0 ? 0 : 1)));
     }
 
     private int person() {
-        return upTo(Math.max(0, x.count(2) - (below(10) == 0 ? 0 : 1)));
+        return upTo(Math.max(0, m.count(2) - (below(10) == 0 ? 0 : 1)));
     }
 
     private int things() {
-        int all = (1 << x.count(1)) - 1;
+        int all = (1 << m.count(1)) - 1;
         switch (below(4)) {
             case 0: return all;
             case 1: return m.live();
@@ -126,8 +133,8 @@ public final class ModelTest {
         told(hurt(houseText()));
     }
 
-    private void oneCall(int call) {
-        if (call == 0 || below(90) == 0) {
+    private void oneStep(boolean first) {
+        if (first || below(90) == 0) {
             String text = houseText();
             for (int tries = 0; tries < 50 && PlainModel.faultOf(text) != PlainModel.NONE; tries++) {
                 text = houseText();
@@ -178,7 +185,7 @@ public final class ModelTest {
         int o = person();
         int t = thing();
         int i = upTo(5);
-        int h = upTo((1 << x.count(2)) - 1);
+        int h = upTo((1 << m.count(2)) - 1);
         switch (below(6)) {
             case 0:
             case 1:
@@ -198,7 +205,7 @@ public final class ModelTest {
             case 0: due.is(run + "lifts(" + p + ")", x.lifts(p), m.lifts(p)); break;
             case 1: due.is(run + "stands(" + p + ", " + s + ")", x.stands(p, s), m.stands(p, s)); break;
             case 2:
-                for (int q = -1; q <= x.count(2); q++) {
+                for (int q = -1; q <= m.count(2); q++) {
                     due.is(run + "carries(" + q + ", " + s + ")", x.carries(q, s), m.carries(q, s));
                 }
                 break;
@@ -207,7 +214,7 @@ public final class ModelTest {
             case 5: due.is(run + "upkeep(" + s + ", " + d + ")", x.upkeep(s, d), m.upkeep(s, d)); break;
             case 6: due.is(run + "mayHave(" + t + ")", x.mayHave(t), m.mayHave(t)); break;
             default:
-                for (int part = 0; part < 1 << x.count(1); part += 1 + below(20)) {
+                for (int part = 0; part < 1 << m.count(1); part += 4 + below(20)) {
                     due.is(run + "times(" + part + ")", x.times(part), m.times(part));
                 }
         }
