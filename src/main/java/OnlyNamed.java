@@ -1048,9 +1048,6 @@ public final class OnlyNamed {
         }
 
         int firstBreak(int n) {
-            if (waysWith(n, lines) > 0) {
-                return NONE;
-            }
             for (int line = 0; line < lines; line++) {
                 if (waysWith(n, line + 1) == 0) {
                     return line;

@@ -35,6 +35,15 @@ public final class ChangesTest {
         return x;
     }
 
+    private static OnlyNamed withFullText() {
+        OnlyNamed x = busy();
+        x.wipe();
+        for (int part = 0; part < 12; part++) {
+            x.write(8, -1L);
+        }
+        return x;
+    }
+
     private static OnlyNamed empty() {
         return new OnlyNamed();
     }
@@ -92,6 +101,7 @@ public final class ChangesTest {
     private static void theText() {
         changesOnly("write", ChangesTest::busy, x -> x.write(1, '1'), "fault", "count(0)");
         changesOnly("wipe", ChangesTest::busy, x -> x.wipe(), "fault", "count(0)");
+        changesOnly("wipe of 96 bytes", ChangesTest::withFullText, x -> x.wipe(), "fault", "count(0)");
         OnlyNamed x = busy();
         x.write(1, '0');
         x.fault();

@@ -9,6 +9,7 @@ public final class EdgesOfLoadsTest {
         noMoreThanItCanBear();
         ifItKnowsItsName();
         nearToNoOtherOne();
+        nearOnesAmongOthers();
         noMoreTogetherThanItCanBear();
         theFirstThatIsTooMuch();
         theFirstThatIsNotLifted();
@@ -19,6 +20,7 @@ public final class EdgesOfLoadsTest {
         theFirstWay();
         theFirstWayBySix();
         byHowFewTimes();
+        byHowFewTimesByOne();
         theMostTimes();
         timesForNone();
         worthOfEach();
@@ -84,13 +86,44 @@ public final class EdgesOfLoadsTest {
             x = Due.houseOf("H1NaNbcP9P9" + known);
             due.is("off by more than r: lifts(0)", x.lifts(0) & 1, 1);
         }
-        OnlyNamed x = Due.houseOf("H1NaNbP9K00");
-        x.days(9);
-        x.say(0, 0, 0);
-        due.is("near to one that is live: lifts(0)", x.lifts(0), 0);
-        x.days(1);
-        due.is("near to one that is not live: lifts(0)", x.lifts(0), 1);
-        due.is("it is carried then", x.times(1), 1);
+        for (int t = 0; t < 2; t++) {
+            OnlyNamed x = Due.houseOf("H1NaNbP9K0" + t);
+            x.days(9);
+            x.say(0, t, 0);
+            due.is("near to one that is live: lifts(0)", x.lifts(0), 0);
+            x.days(1);
+            due.is("near to one that is not live: lifts(0)", x.lifts(0), 1 << t);
+            due.is("it is carried then", x.times(1 << t), 1);
+        }
+    }
+
+    /** Each of two pairs, and a chain, are near; what is near to none is lifted. */
+    private static void nearOnesAmongOthers() {
+        String known = "K00K01K02K03K04K05";
+        int[][] ofThePairs = {{0b000011, 0b001100}, {0b000101, 0b001010}, {0b100001, 0b010010}, {0b000110, 0b110000}};
+        for (int[] pairs : ofThePairs) {
+            String[] names = new String[6];
+            String[][] near = {{"aaa", "aab"}, {"bbb", "bbc"}};
+            String[] others = {"ccccc", "dddd"};
+            int[] next = {0, 0, 0};
+            for (int t = 0; t < 6; t++) {
+                int kind = (pairs[0] >> t & 1) == 1 ? 0 : (pairs[1] >> t & 1) == 1 ? 1 : 2;
+                names[t] = kind < 2 ? near[kind][next[kind]] : others[next[kind]];
+                next[kind]++;
+            }
+            OnlyNamed x = Due.houseOf("H1N" + String.join("N", names) + "P9" + known);
+            due.is("two pairs " + pairs[0] + ", " + pairs[1] + ": lifts(0)", x.lifts(0), 63 - pairs[0] - pairs[1]);
+            for (int t = 0; t < 6; t++) {
+                int own = 1 << t;
+                int pair = (pairs[0] & own) != 0 ? pairs[0] : (pairs[1] & own) != 0 ? pairs[1] : own;
+                due.is("two pairs " + pairs[0] + ", " + pairs[1] + ": near(" + t + ")", x.near(t), pair - own);
+                due.is("two pairs " + pairs[0] + ", " + pairs[1] + ": mayHave(" + t + ")", x.mayHave(t), pair == own ? 1 : 0);
+            }
+        }
+        OnlyNamed x = Due.houseOf("H1NaNabNabcNabcdNfffNffP9" + known);
+        due.is("a chain of four, and two: lifts(0)", x.lifts(0), 0);
+        x = Due.houseOf("H1NaNabNabcNabcdNfffNeeP9" + known);
+        due.is("a chain of four, and two that are not: lifts(0)", x.lifts(0), 48);
     }
 
     /** "they weigh no more together than it can bear": just as much, and one more. */
@@ -231,6 +264,12 @@ public final class EdgesOfLoadsTest {
         for (int p = 0; p < 3; p++) {
             due.is("0 lifts the third alone: " + p, x.carries(p, 7), third[p]);
         }
+        x = Due.houseOf("H0NabNacNdefP3P4K00K01K02K10K11K12");
+        due.is("ab and ac are less bits, but more than 0 can bear", x.carries(0, 7), 4);
+        due.is("so 1 has them", x.carries(1, 7), 3);
+        x = Due.houseOf("H0NabNacNdefP4P4K00K01K02K10K11K12");
+        due.is("ab and ac are just what 0 can bear", x.carries(0, 7), 3);
+        due.is("so 1 has def", x.carries(1, 7), 4);
         x = Due.houseOf("H0NaNbNcP2P1P9K00K01K02K10K22");
         int[] lone = {2, 1, 4};
         for (int p = 0; p < 3; p++) {
@@ -277,6 +316,29 @@ public final class EdgesOfLoadsTest {
         due.is("3 3, 2 2 2: not 3 2, 3 2, 2", x.times(31), 2);
         x = Due.houseOf("H0NaNbbP2P2K00K01K10");
         due.is("the one that only one lifts is left to it", x.times(3), 1);
+    }
+
+    /** Each of six people by itself carries one by one what it alone lifts, or two by two. */
+    private static void byHowFewTimesByOne() {
+        for (int p = 0; p < 6; p++) {
+            for (int bears = 1; bears <= 2; bears++) {
+                String people = "P1P1P1P1P1P1".substring(0, 2 * p) + "P" + bears + "P1P1P1P1P1".substring(2 * p);
+                String text = "H0NaNbNcNdNeNfNaaaa" + people;
+                for (int t = 0; t < 6; t++) {
+                    text += "K" + p + t;
+                }
+                OnlyNamed x = Due.houseOf(text + "K" + p + 6);
+                for (int set = 0; set < 64; set += 1 + set % 3) {
+                    int want = (Integer.bitCount(set) + bears - 1) / bears;
+                    due.is(p + " alone, " + bears + " by " + bears + ": times(" + set + ")", x.times(set), want);
+                    due.is(p + " alone: with one that nobody lifts", x.times(set + 64), NONE);
+                    due.is(p + " alone: carries", x.carries(p, set), want <= 1 ? set : STATE);
+                    due.is(p + " alone: carries of another one", x.carries((p + 1) % 6, set), want <= 1 ? 0 : STATE);
+                }
+                due.is(p + " alone: worth", x.worth(p), 99);
+                due.is(p + " alone: worth of another one", x.worth((p + 5) % 6), 0);
+            }
+        }
     }
 
     /** Eight things by one who carries but one at a time. */

@@ -25,6 +25,7 @@ public final class EdgesOfNamesTest {
         freshIsOffByMoreThanR();
         freshIsTheShortest();
         freshOfLikeOnesIsTheFirst();
+        freshBehindAllOfOneStart();
         freshOfEachLength();
         freshThereIsNone();
         anewOnTheFirstDayOnly();
@@ -272,6 +273,17 @@ public final class EdgesOfNamesTest {
         fresh("H1NbaNcaNdaNeaNfaNaa", "abb");
     }
 
+    /** Where all that begins with a is too near, not by one name but by some together, b comes, and so on. */
+    private static void freshBehindAllOfOneStart() {
+        // Of two sounds aa, ba are near to ea; ab, ae to abe; ac, ad to acd; af to f.
+        fresh("H1NabeNacdNfNea", "bb");
+        fresh("H1NfNabaNdNbeNbc", "ca");
+        fresh("H1NfNeNbbNaacNaedNdad", "ca");
+        fresh("H2NeefNdfcNebdNafebNcbefNaabNabff", "bca");
+        fresh("H3NcebdNaafbNecbe", "dda");
+        fresh("H3NdacdNfabeNceaeNfaeeNedcf", "affa");
+    }
+
     private static void freshOfEachLength() {
         fresh("H3Nabcde", "a");
         fresh("H1Nc", "aa");
@@ -337,9 +349,10 @@ public final class EdgesOfNamesTest {
             {"a", "bbb"}, {"a", "bbbb"}};
         for (int r = 0; r <= 3; r++) {
             OnlyNamed x = Due.houseOf("H" + r + "NaNbbNcccNddddNeeeeeNfaNfbNfcP9P9");
+            List<String> live = new ArrayList<>();
             x.days(99);
             for (int t = 0; t < 8; t++) {
-                String want = slowFresh(x, r, t);
+                String want = slowFresh(live, r);
                 if (want.isEmpty()) {
                     due.is("r " + r + ": there is no fresh one for " + t, x.anew(1, t), STATE);
                     continue;
@@ -347,6 +360,7 @@ public final class EdgesOfNamesTest {
                 due.same("r " + r + ": fresh", Due.freshOf(x), want);
                 due.is("r " + r + ": anew(1, " + t + ")", x.anew(1, t), want.length());
                 due.same("r " + r + ": the name of " + t, Due.nameOf(x, t), want);
+                live.add(want);
                 if (t < names[r].length) {
                     due.same("r " + r + ": told by hand, " + t, want, names[r][t]);
                 }
@@ -354,8 +368,8 @@ public final class EdgesOfNamesTest {
         }
     }
 
-    /** The first of all names, the shortest ahead, that is off by more than r from those of the first things. */
-    private static String slowFresh(OnlyNamed x, int r, int things) {
+    /** The first of all names, the shortest ahead, that is off by more than r from the live ones. */
+    private static String slowFresh(List<String> live, int r) {
         List<String> names = List.of("");
         for (int length = 1; length <= 5; length++) {
             List<String> longer = new ArrayList<>();
@@ -365,11 +379,7 @@ public final class EdgesOfNamesTest {
                 }
             }
             for (String name : longer) {
-                boolean far = true;
-                for (int t = 0; t < things; t++) {
-                    far &= PlainModel.apart(name, Due.nameOf(x, t)) > r;
-                }
-                if (far) {
+                if (live.stream().allMatch(other -> PlainModel.apart(name, other) > r)) {
                     return name;
                 }
             }
