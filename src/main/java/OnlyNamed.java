@@ -368,6 +368,10 @@ public final class OnlyNamed {
         return (bits >> i & 1) != 0;
     }
 
+    private static boolean isSet(int bits) {
+        return bits >= 0 && bits < SETS;
+    }
+
     private static boolean isOldHouse(int n) {
         return n >= 1 && n <= MOST_THINGS;
     }
@@ -927,6 +931,9 @@ public final class OnlyNamed {
         }
 
         private void packSet(int set) {
+            if (!isSet(set)) {
+                return;
+            }
             for (int thing = 0; thing < MOST_THINGS; thing++) {
                 if (has(set, thing) && loads[set ^ 1 << thing] != NONE) {
                     putLast(set, thing);
@@ -936,6 +943,9 @@ public final class OnlyNamed {
 
         /** The thing comes to all the others of the set: into the last of their loads, or into the next that can be. */
         private void putLast(int set, int thing) {
+            if (!isSet(set) || thing < 0 || thing >= MOST_THINGS || !has(set, thing)) {
+                return;
+            }
             int rest = set ^ 1 << thing;
             int opened = loads[rest];
             int weight = lastWeight[rest] + weights[thing];
@@ -943,15 +953,18 @@ public final class OnlyNamed {
                 holdBetter(set, opened, weight);
                 return;
             }
-            for (int next = opened + 1; next <= opened + MOST_PEOPLE; next++) {
-                if (canTake(next, thing, weights[thing])) {
-                    holdBetter(set, next, weights[thing]);
+            for (int more = 1; more <= MOST_PEOPLE; more++) {
+                if (canTake(opened + more, thing, weights[thing])) {
+                    holdBetter(set, opened + more, weights[thing]);
                     return;
                 }
             }
         }
 
         private void holdBetter(int set, int opened, int weight) {
+            if (!isSet(set)) {
+                return;
+            }
             if (loads[set] == NONE || opened < loads[set] || opened == loads[set] && weight < lastWeight[set]) {
                 loads[set] = opened;
                 lastWeight[set] = weight;
@@ -964,7 +977,7 @@ public final class OnlyNamed {
         }
 
         int timesFor(int things) {
-            if (things < 0 || things >= SETS || loads[things] == NONE) {
+            if (!isSet(things) || loads[things] == NONE) {
                 return NONE;
             }
             return (loads[things] + MOST_PEOPLE - 1) / MOST_PEOPLE;
@@ -973,7 +986,7 @@ public final class OnlyNamed {
         int firstWay(int person, int things) {
             int rest = things;
             int load = 0;
-            for (int one = 0; one <= person; one++) {
+            for (int one = 0; one <= person && one < MOST_PEOPLE; one++) {
                 load = leastLoad(one, rest);
                 rest &= ~load;
             }
@@ -983,7 +996,7 @@ public final class OnlyNamed {
         /** The least load for a person that leaves what those behind it can carry. */
         private int leastLoad(int person, int rest) {
             int behind = MOST_PEOPLE - 1 - person;
-            for (int load = 0; load <= rest && rest < SETS; load++) {
+            for (int load = 0; load <= rest && isSet(rest); load++) {
                 if ((load & ~rest) == 0 && loads[rest ^ load] != NONE && loads[rest ^ load] <= behind
                         && bearsLoad(person, load)) {
                     return load;
@@ -1089,10 +1102,10 @@ public final class OnlyNamed {
 
         private void giveNext(int n, int set) {
             int name = Integer.bitCount(set);
-            if (name >= MOST_THINGS) {
+            if (!isSet(set) || name >= MOST_THINGS) {
                 return;
             }
-            for (int thing = 0; thing < n; thing++) {
+            for (int thing = 0; thing < n && thing < MOST_THINGS; thing++) {
                 if (has(canBe[name], thing) && !has(set, thing)) {
                     fits[set | 1 << thing] += fits[set];
                 }
